@@ -516,6 +516,7 @@ public final class PlanarSplit {
 
         /** Draws a path through the chosen fragment that meets the drawing in its two ends alone. */
         private void drawPath() {
+            // A fragment of a block has two contacts or more, so a goal is always reached.
             int start = Bits.least(chosenContacts);
             int goals = chosenContacts & ~(1 << start);
             int reached = 1 << start;

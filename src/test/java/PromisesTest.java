@@ -260,6 +260,7 @@ public final class PromisesTest {
         for (int v : WRONG) {
             CHECK.due("component(" + v + ")", x.component(v), NONE);
         }
+        CHECK.due("component(2) as the first question", graph(3, 1, 0, 1).component(2), 1);
         CHECK.due("components() of five", five().components(), 1);
         same("components of five", components(five(), 5), "00000");
     }
@@ -287,6 +288,7 @@ public final class PromisesTest {
         CHECK.due("blocks() of trees", trees.blocks(), 7);
         same("blocks of trees", blocks(trees), "0 1 2 3 4 5 6");
         same("blocks of edges with the same ends", blocks(graph(3, 1, 0, 1, 1, 2, 1, 0, 0, 1)), "0 1 0 0");
+        CHECK.due("block(1) as the first question", graph(3, 1, 0, 1, 1, 2).block(1), 1);
         CHECK.due("blocks() of five", five().blocks(), 1);
         CHECK.due("blocks() without edges", graph(10, 1).blocks(), 0);
     }
@@ -441,6 +443,8 @@ public final class PromisesTest {
         CHECK.due("five beside others", triangleAndFive().kind(), 5);
         CHECK.due("five with a vertex on an edge", graph(6, 1, 0, 1, 0, 2, 0, 3, 0, 4, 1, 2, 1, 3, 1, 4,
                 2, 3, 2, 4, 3, 5, 5, 4).kind(), 5);
+        CHECK.due("five, two edges to and two from each", graph(5, 1, 0, 1, 1, 2, 2, 3, 3, 4, 4, 0,
+                0, 2, 2, 4, 4, 1, 1, 3, 3, 0).kind(), 5);
         PlanarSplit five = five();
         five.add(0, 1, 1);
         CHECK.due("five with an edge doubled", five.kind(), 5);
