@@ -526,7 +526,7 @@ public final class PlanarSplit {
             int v = Bits.least(reached & goals);
             path[0] = v;
             pathLength = 1;
-            while (v != start && pathLength < MOST_VERTICES) {
+            while (v != start && graph.hasVertex(v) && pathLength < MOST_VERTICES) {
                 int e = cameBy[v];
                 v = graph.first[e] == v ? graph.second[e] : graph.first[e];
                 drawnEdges |= 1 << e;
@@ -589,9 +589,11 @@ public final class PlanarSplit {
         }
 
         private void walkTo(int f, int v) {
-            walk[f][walkLength[f]] = v;
-            walkLength[f]++;
-            walkSet[f] |= 1 << v;
+            if (walkLength[f] < MOST_VERTICES) {
+                walk[f][walkLength[f]] = v;
+                walkLength[f]++;
+                walkSet[f] |= 1 << v;
+            }
         }
     }
 
