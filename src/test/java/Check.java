@@ -18,6 +18,13 @@ final class Check {
         due(call, got ? 1 : 0, want ? 1 : 0);
     }
 
+    void due(String call, String got, String want) {
+        if (!got.equals(want)) {
+            wrong++;
+            System.out.println(where + ": " + call + " answered " + got + ", due is " + want);
+        }
+    }
+
     boolean isClean() {
         return wrong == 0;
     }

@@ -26,7 +26,7 @@ public final class ModelTest {
         for (int calls = 0; calls < CALLS && check.isClean();) {
             check.at("run " + run + " call " + calls + told);
             calls += change(check, x, model, style, told);
-            if (below(3) == 0) {
+            if (below(3) == 0 && calls < CALLS) {
                 calls += askSome(check, x, model);
             }
             if (below(16) == 0 && calls + 90 < CALLS) {

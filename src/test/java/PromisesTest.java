@@ -1,11 +1,7 @@
 /** Each promise of the document: ordinary inputs, the edges that it names, and wrong inputs. */
 public final class PromisesTest {
     private static final int NONE = PlanarSplit.NONE;
-    private static final int HEAVIEST = Integer.MAX_VALUE;
     private static final int[] WRONG = {-1, 18, 19, 31, 32, 33, 64, -32, Integer.MAX_VALUE, Integer.MIN_VALUE};
-
-    private static final int[] FIVE = {0, 1, 0, 2, 0, 3, 0, 4, 1, 2, 1, 3, 1, 4, 2, 3, 2, 4, 3, 4};
-    private static final int[] THREE_AND_THREE = {0, 3, 0, 4, 0, 5, 1, 3, 1, 4, 1, 5, 2, 3, 2, 4, 2, 5};
 
     private static final Check CHECK = new Check();
 
@@ -29,96 +25,6 @@ public final class PromisesTest {
         answersFollowTheGraph();
         objectsAreApart();
         CHECK.end();
-    }
-
-    // ---- graphs that many tests use
-
-    /** Edges given as pairs of ends, all of the same weight. */
-    private static PlanarSplit graph(int n, int weight, int... ends) {
-        PlanarSplit x = new PlanarSplit();
-        x.begin(n);
-        for (int i = 0; i < ends.length; i += 2) {
-            x.add(ends[i], ends[i + 1], weight);
-        }
-        return x;
-    }
-
-    private static PlanarSplit five() {
-        return graph(5, 1, FIVE);
-    }
-
-    private static PlanarSplit threeAndThree() {
-        return graph(6, 1, THREE_AND_THREE);
-    }
-
-    private static PlanarSplit cube() {
-        return graph(8, 1, 0, 1, 1, 2, 2, 3, 3, 0, 4, 5, 5, 6, 6, 7, 7, 4, 0, 4, 1, 5, 2, 6, 3, 7);
-    }
-
-    private static PlanarSplit wheel() {
-        return graph(6, 2, 0, 1, 0, 2, 0, 3, 0, 4, 0, 5, 1, 2, 2, 3, 3, 4, 4, 5, 5, 1);
-    }
-
-    private static PlanarSplit eighteen() {
-        PlanarSplit x = graph(2, 1);
-        for (int e = 0; e < 18; e++) {
-            x.add(e % 2, 1 - e % 2, 1);
-        }
-        return x;
-    }
-
-    /** Five vertices of which each two have an edge, then a triangle, and two vertices alone. */
-    private static PlanarSplit triangleAndFive() {
-        return graph(10, 1, 5, 6, 5, 7, 5, 8, 5, 9, 6, 7, 6, 8, 6, 9, 7, 8, 7, 9, 8, 9, 0, 1, 1, 2, 2, 0);
-    }
-
-    private static PlanarSplit petersen() {
-        return graph(10, 1, 0, 1, 1, 2, 2, 3, 3, 4, 4, 0, 0, 5, 1, 6, 2, 7, 3, 8, 4, 9,
-                5, 7, 7, 9, 9, 6, 6, 8, 8, 5);
-    }
-
-    private static String crossing(PlanarSplit x) {
-        StringBuilder row = new StringBuilder();
-        for (int e = 0; e < x.edges(); e++) {
-            row.append(x.crosses(e) ? '1' : '0');
-        }
-        return row.toString();
-    }
-
-    private static String sides(PlanarSplit x, int n) {
-        StringBuilder row = new StringBuilder();
-        for (int v = 0; v < n; v++) {
-            row.append(x.side(v));
-        }
-        return row.toString();
-    }
-
-    private static String witness(PlanarSplit x) {
-        StringBuilder row = new StringBuilder();
-        for (int e = 0; e < x.edges(); e++) {
-            row.append(x.witness(e) ? '1' : '0');
-        }
-        return row.toString();
-    }
-
-    private static String blocks(PlanarSplit x) {
-        StringBuilder row = new StringBuilder();
-        for (int e = 0; e < x.edges(); e++) {
-            row.append(x.block(e)).append(' ');
-        }
-        return row.toString().trim();
-    }
-
-    private static String components(PlanarSplit x, int n) {
-        StringBuilder row = new StringBuilder();
-        for (int v = 0; v < n; v++) {
-            row.append(x.component(v));
-        }
-        return row.toString();
-    }
-
-    private static void same(String what, String got, String want) {
-        CHECK.due(what + " = " + got + " for " + want, got.equals(want), true);
     }
 
     // ---- the promises
@@ -165,9 +71,9 @@ public final class PromisesTest {
 
     private static void promise3Add() {
         CHECK.at("promise 3");
-        PlanarSplit x = graph(4, 1);
+        PlanarSplit x = Graphs.of(4, 1);
         CHECK.due("add(0, 1, 0)", x.add(0, 1, 0), 0);
-        CHECK.due("add(1, 0, greatest)", x.add(1, 0, HEAVIEST), 1);
+        CHECK.due("add(1, 0, greatest)", x.add(1, 0, Graphs.HEAVIEST), 1);
         CHECK.due("add(3, 2, 5)", x.add(3, 2, 5), 2);
         CHECK.due("add(4, 0, 1)", x.add(4, 0, 1), NONE);
         CHECK.due("add(0, 4, 1)", x.add(0, 4, 1), NONE);
@@ -184,12 +90,12 @@ public final class PromisesTest {
         CHECK.due("add beyond 18", x.add(0, 1, 1), NONE);
         CHECK.due("edges()", x.edges(), 18);
         CHECK.due("components()", x.components(), 2);
-        CHECK.due("cut()", x.cut(), HEAVIEST + 20L);
+        CHECK.due("cut()", x.cut(), Graphs.HEAVIEST + 20L);
     }
 
     private static void promise4Undo() {
         CHECK.at("promise 4");
-        PlanarSplit x = graph(3, 4, 0, 1, 1, 2, 2, 0);
+        PlanarSplit x = Graphs.of(3, 4, 0, 1, 1, 2, 2, 0);
         CHECK.due("undo()", x.undo(), 2);
         CHECK.due("cut()", x.cut(), 8);
         CHECK.due("crosses(2)", x.crosses(2), false);
@@ -212,12 +118,12 @@ public final class PromisesTest {
 
     private static void promise5Weigh() {
         CHECK.at("promise 5");
-        PlanarSplit x = graph(3, 5, 0, 1, 1, 2, 2, 0);
+        PlanarSplit x = Graphs.of(3, 5, 0, 1, 1, 2, 2, 0);
         CHECK.due("cut()", x.cut(), 10);
         CHECK.due("weigh(1, 6)", x.weigh(1, 6), true);
         CHECK.due("cut()", x.cut(), 11);
-        CHECK.due("weigh(2, greatest)", x.weigh(2, HEAVIEST), true);
-        CHECK.due("cut()", x.cut(), HEAVIEST + 6L);
+        CHECK.due("weigh(2, greatest)", x.weigh(2, Graphs.HEAVIEST), true);
+        CHECK.due("cut()", x.cut(), Graphs.HEAVIEST + 6L);
         CHECK.due("weigh(2, 0)", x.weigh(2, 0), true);
         CHECK.due("cut()", x.cut(), 11);
         CHECK.due("weigh(3, 1)", x.weigh(3, 1), false);
@@ -233,7 +139,7 @@ public final class PromisesTest {
 
     private static void promise6Edges() {
         CHECK.at("promise 6");
-        PlanarSplit x = graph(2, 1);
+        PlanarSplit x = Graphs.of(2, 1);
         for (int e = 0; e < 18; e++) {
             CHECK.due("edges()", x.edges(), e);
             x.add(e % 2, 1 - e % 2, e);
@@ -245,81 +151,82 @@ public final class PromisesTest {
 
     private static void promises7And8Components() {
         CHECK.at("promises 7 and 8");
-        PlanarSplit x = graph(10, 1, 9, 3, 5, 1, 3, 6, 8, 5);
+        PlanarSplit x = Graphs.of(10, 1, 9, 3, 5, 1, 3, 6, 8, 5);
         CHECK.due("components()", x.components(), 6);
-        same("components", components(x, 10), "0123413513");
+        CHECK.due("components", Answers.components(x, 10), "0123413513");
         x.add(9, 8, 0);
         CHECK.due("components()", x.components(), 5);
-        same("components", components(x, 10), "0121311411");
+        CHECK.due("components", Answers.components(x, 10), "0121311411");
         x.add(6, 1, 0);
         CHECK.due("components() with a circle more", x.components(), 5);
         x.add(7, 0, 0);
         CHECK.due("components()", x.components(), 4);
-        same("components", components(x, 10), "0121311011");
+        CHECK.due("components", Answers.components(x, 10), "0121311011");
         CHECK.due("component(10)", x.component(10), NONE);
         for (int v : WRONG) {
             CHECK.due("component(" + v + ")", x.component(v), NONE);
         }
-        CHECK.due("component(2) as the first question", graph(3, 1, 0, 1).component(2), 1);
-        CHECK.due("components() of five", five().components(), 1);
-        same("components of five", components(five(), 5), "00000");
+        CHECK.due("component(2) as the first question", Graphs.of(3, 1, 0, 1).component(2), 1);
+        CHECK.due("components() of five", Graphs.five().components(), 1);
+        CHECK.due("components of five", Answers.components(Graphs.five(), 5), "00000");
     }
 
     private static void promises9And10Blocks() {
         CHECK.at("promises 9 and 10");
         // A bridge between two triangles, and a third that shares a vertex with the second.
-        PlanarSplit x = graph(8, 1, 2, 3, 3, 4, 0, 1, 1, 2, 4, 5, 2, 0, 5, 3, 5, 6, 6, 7, 7, 5);
+        PlanarSplit x = Graphs.of(8, 1, 2, 3, 3, 4, 0, 1, 1, 2, 4, 5, 2, 0, 5, 3, 5, 6, 6, 7, 7, 5);
         CHECK.due("blocks()", x.blocks(), 4);
-        same("blocks", blocks(x), "0 1 2 2 1 2 1 3 3 3");
+        CHECK.due("blocks", Answers.blocks(x), "0 1 2 2 1 2 1 3 3 3");
         x.add(7, 4, 1);
         CHECK.due("blocks()", x.blocks(), 3);
-        same("blocks", blocks(x), "0 1 2 2 1 2 1 1 1 1 1");
+        CHECK.due("blocks", Answers.blocks(x), "0 1 2 2 1 2 1 1 1 1 1");
         x.add(3, 2, 1);
         CHECK.due("blocks() with the bridge doubled", x.blocks(), 3);
-        same("blocks", blocks(x), "0 1 2 2 1 2 1 1 1 1 1 0");
+        CHECK.due("blocks", Answers.blocks(x), "0 1 2 2 1 2 1 1 1 1 1 0");
         x.add(7, 0, 1);
         CHECK.due("blocks() all in one", x.blocks(), 1);
-        same("blocks", blocks(x), "0 0 0 0 0 0 0 0 0 0 0 0 0");
+        CHECK.due("blocks", Answers.blocks(x), "0 0 0 0 0 0 0 0 0 0 0 0 0");
         CHECK.due("block(13)", x.block(13), NONE);
         for (int e : WRONG) {
             CHECK.due("block(" + e + ")", x.block(e), NONE);
         }
-        PlanarSplit trees = graph(10, 1, 0, 1, 0, 2, 0, 3, 3, 4, 4, 5, 5, 6, 7, 8);
+        PlanarSplit trees = Graphs.of(10, 1, 0, 1, 0, 2, 0, 3, 3, 4, 4, 5, 5, 6, 7, 8);
         CHECK.due("blocks() of trees", trees.blocks(), 7);
-        same("blocks of trees", blocks(trees), "0 1 2 3 4 5 6");
-        same("blocks of edges with the same ends", blocks(graph(3, 1, 0, 1, 1, 2, 1, 0, 0, 1)), "0 1 0 0");
-        CHECK.due("block(1) as the first question", graph(3, 1, 0, 1, 1, 2).block(1), 1);
-        CHECK.due("blocks() of five", five().blocks(), 1);
-        CHECK.due("blocks() without edges", graph(10, 1).blocks(), 0);
+        CHECK.due("blocks of trees", Answers.blocks(trees), "0 1 2 3 4 5 6");
+        CHECK.due("blocks of edges with the same ends",
+                Answers.blocks(Graphs.of(3, 1, 0, 1, 1, 2, 1, 0, 0, 1)), "0 1 0 0");
+        CHECK.due("block(1) as the first question", Graphs.of(3, 1, 0, 1, 1, 2).block(1), 1);
+        CHECK.due("blocks() of five", Graphs.five().blocks(), 1);
+        CHECK.due("blocks() without edges", Graphs.of(10, 1).blocks(), 0);
     }
 
     private static void promise11Planar() {
         CHECK.at("promise 11");
-        CHECK.due("five", five().planar(), false);
-        CHECK.due("three and three", threeAndThree().planar(), false);
-        CHECK.due("Petersen's", petersen().planar(), false);
-        CHECK.due("a cube", cube().planar(), true);
-        CHECK.due("an octahedron", graph(6, 1, 0, 1, 0, 2, 0, 3, 0, 4, 5, 1, 5, 2, 5, 3, 5, 4,
+        CHECK.due("five", Graphs.five().planar(), false);
+        CHECK.due("three and three", Graphs.threeAndThree().planar(), false);
+        CHECK.due("Petersen's", Graphs.petersen().planar(), false);
+        CHECK.due("a cube", Graphs.cube().planar(), true);
+        CHECK.due("an octahedron", Graphs.of(6, 1, 0, 1, 0, 2, 0, 3, 0, 4, 5, 1, 5, 2, 5, 3, 5, 4,
                 1, 2, 2, 3, 3, 4, 4, 1).planar(), true);
-        CHECK.due("a prism of five", graph(10, 1, 0, 1, 1, 2, 2, 3, 3, 4, 4, 0, 5, 6, 6, 7, 7, 8, 8, 9,
+        CHECK.due("a prism of five", Graphs.of(10, 1, 0, 1, 1, 2, 2, 3, 3, 4, 4, 0, 5, 6, 6, 7, 7, 8, 8, 9,
                 9, 5, 0, 5, 1, 6, 2, 7, 3, 8, 4, 9).planar(), true);
-        CHECK.due("a twisted ladder", graph(8, 1, 0, 1, 1, 2, 2, 3, 3, 4, 4, 5, 5, 6, 6, 7, 7, 0,
+        CHECK.due("a twisted ladder", Graphs.of(8, 1, 0, 1, 1, 2, 2, 3, 3, 4, 4, 5, 5, 6, 6, 7, 7, 0,
                 0, 4, 1, 5, 2, 6, 3, 7).planar(), false);
-        CHECK.due("a wheel of nine", graph(10, 1, 0, 1, 0, 2, 0, 3, 0, 4, 0, 5, 0, 6, 0, 7, 0, 8, 0, 9,
+        CHECK.due("a wheel of nine", Graphs.of(10, 1, 0, 1, 0, 2, 0, 3, 0, 4, 0, 5, 0, 6, 0, 7, 0, 8, 0, 9,
                 1, 2, 2, 3, 3, 4, 4, 5, 5, 6, 6, 7, 7, 8, 8, 9, 9, 1).planar(), true);
-        CHECK.due("eighteen edges with the same ends", eighteen().planar(), true);
-        CHECK.due("no vertex", graph(0, 1).planar(), true);
-        CHECK.due("ten vertices alone", graph(10, 1).planar(), true);
-        CHECK.due("five in a later component", triangleAndFive().planar(), false);
-        CHECK.due("three and three with edges doubled", graph(6, 1, 0, 3, 0, 3, 0, 4, 0, 5, 1, 3, 1, 4, 1, 4,
+        CHECK.due("eighteen edges with the same ends", Graphs.eighteen().planar(), true);
+        CHECK.due("no vertex", Graphs.of(0, 1).planar(), true);
+        CHECK.due("ten vertices alone", Graphs.of(10, 1).planar(), true);
+        CHECK.due("five in a later component", Graphs.triangleAndFive().planar(), false);
+        CHECK.due("three and three with edges doubled", Graphs.of(6, 1, 0, 3, 0, 3, 0, 4, 0, 5, 1, 3, 1, 4, 1, 4,
                 1, 5, 2, 3, 2, 4, 2, 5, 5, 2).planar(), false);
-        everyEdgeIsNeeded("five", 5, FIVE);
-        everyEdgeIsNeeded("three and three", 6, THREE_AND_THREE);
+        everyEdgeIsNeeded("five", 5, Graphs.FIVE);
+        everyEdgeIsNeeded("three and three", 6, Graphs.THREE_AND_THREE);
     }
 
     private static void everyEdgeIsNeeded(String name, int n, int[] ends) {
         for (int i = 0; i < ends.length; i += 2) {
-            PlanarSplit x = graph(n, 1);
+            PlanarSplit x = Graphs.of(n, 1);
             for (int j = 0; j < ends.length; j += 2) {
                 if (j != i) {
                     x.add(ends[j], ends[j + 1], 1);
@@ -333,15 +240,15 @@ public final class PromisesTest {
 
     private static void promise12Faces() {
         CHECK.at("promise 12");
-        CHECK.due("no vertex", graph(0, 1).faces(), 0);
-        CHECK.due("ten alone", graph(10, 1).faces(), 10);
-        CHECK.due("a tree", graph(4, 1, 0, 1, 0, 2, 0, 3).faces(), 1);
-        CHECK.due("a triangle and two alone", graph(5, 1, 0, 1, 1, 2, 2, 0).faces(), 4);
-        CHECK.due("eighteen edges with the same ends", eighteen().faces(), 18);
-        CHECK.due("a cube", cube().faces(), 6);
-        CHECK.due("five", five().faces(), 0);
-        CHECK.due("three and three", threeAndThree().faces(), 0);
-        PlanarSplit x = triangleAndFive();
+        CHECK.due("no vertex", Graphs.of(0, 1).faces(), 0);
+        CHECK.due("ten alone", Graphs.of(10, 1).faces(), 10);
+        CHECK.due("a tree", Graphs.of(4, 1, 0, 1, 0, 2, 0, 3).faces(), 1);
+        CHECK.due("a triangle and two alone", Graphs.of(5, 1, 0, 1, 1, 2, 2, 0).faces(), 4);
+        CHECK.due("eighteen edges with the same ends", Graphs.eighteen().faces(), 18);
+        CHECK.due("a cube", Graphs.cube().faces(), 6);
+        CHECK.due("five", Graphs.five().faces(), 0);
+        CHECK.due("three and three", Graphs.threeAndThree().faces(), 0);
+        PlanarSplit x = Graphs.triangleAndFive();
         CHECK.due("five, a triangle and two alone", x.faces(), 4);
         x.add(0, 5, 1);
         CHECK.due("five with a triangle hung on, and two alone", x.faces(), 2);
@@ -353,121 +260,119 @@ public final class PromisesTest {
 
     private static void promise13Cut() {
         CHECK.at("promise 13");
-        CHECK.due("no vertex", graph(0, 1).cut(), 0);
-        CHECK.due("no edge", graph(10, 1).cut(), 0);
-        CHECK.due("a triangle", graph(3, 7, 0, 1, 1, 2, 2, 0).cut(), 14);
-        CHECK.due("a square", graph(4, 7, 0, 1, 1, 2, 2, 3, 3, 0).cut(), 28);
-        CHECK.due("edges without weight", graph(4, 0, 0, 1, 1, 2, 2, 3, 3, 0).cut(), 0);
-        CHECK.due("a wheel of five", wheel().cut(), 14);
-        CHECK.due("five", five().cut(), NONE);
-        CHECK.due("three and three", threeAndThree().cut(), NONE);
-        PlanarSplit heavy = eighteen();
+        CHECK.due("no vertex", Graphs.of(0, 1).cut(), 0);
+        CHECK.due("no edge", Graphs.of(10, 1).cut(), 0);
+        CHECK.due("a triangle", Graphs.of(3, 7, 0, 1, 1, 2, 2, 0).cut(), 14);
+        CHECK.due("a square", Graphs.of(4, 7, 0, 1, 1, 2, 2, 3, 3, 0).cut(), 28);
+        CHECK.due("edges without weight", Graphs.of(4, 0, 0, 1, 1, 2, 2, 3, 3, 0).cut(), 0);
+        CHECK.due("a wheel of five", Graphs.wheel().cut(), 14);
+        CHECK.due("five", Graphs.five().cut(), NONE);
+        CHECK.due("three and three", Graphs.threeAndThree().cut(), NONE);
+        PlanarSplit heavy = Graphs.eighteen();
         for (int e = 0; e < 18; e++) {
-            heavy.weigh(e, HEAVIEST);
+            heavy.weigh(e, Graphs.HEAVIEST);
         }
-        CHECK.due("eighteen of the heaviest", heavy.cut(), 18L * HEAVIEST);
-        PlanarSplit x = five();
+        CHECK.due("eighteen of the heaviest", heavy.cut(), 18L * Graphs.HEAVIEST);
+        PlanarSplit x = Graphs.five();
         x.undo();
         CHECK.due("five without an edge", x.cut(), 6);
     }
 
     private static void promise14Side() {
         CHECK.at("promise 14");
-        same("sides of vertices alone", sides(graph(10, 1), 10), "0000000000");
-        same("sides of a triangle", sides(graph(3, 5, 0, 1, 1, 2, 2, 0), 3), "010");
-        same("sides of a wheel of five", sides(wheel(), 6), "011010");
-        same("sides of the heaviest", sides(graph(4, HEAVIEST, 3, 2, 2, 1, 1, 0), 4), "0101");
-        PlanarSplit x = graph(6, 0, 3, 0, 5, 2, 2, 1);
-        same("sides of three components", sides(x, 6), "001100");
+        CHECK.due("sides of vertices alone", Answers.sides(Graphs.of(10, 1), 10), "0000000000");
+        CHECK.due("sides of a triangle", Answers.sides(Graphs.of(3, 5, 0, 1, 1, 2, 2, 0), 3), "010");
+        CHECK.due("sides of a wheel of five", Answers.sides(Graphs.wheel(), 6), "011010");
+        CHECK.due("sides of the heaviest", Answers.sides(Graphs.of(4, Graphs.HEAVIEST, 3, 2, 2, 1, 1, 0), 4), "0101");
+        PlanarSplit x = Graphs.of(6, 0, 3, 0, 5, 2, 2, 1);
+        CHECK.due("sides of three components", Answers.sides(x, 6), "001100");
         CHECK.due("side(6)", x.side(6), NONE);
         for (int v : WRONG) {
             CHECK.due("side(" + v + ")", x.side(v), NONE);
         }
-        PlanarSplit five = five();
-        same("sides of five", sides(five, 6), "-1-1-1-1-1-1");
+        PlanarSplit five = Graphs.five();
+        CHECK.due("sides of five", Answers.sides(five, 6), "-1-1-1-1-1-1");
         five.undo();
-        same("sides of five without an edge", sides(five, 5), "01100");
+        CHECK.due("sides of five without an edge", Answers.sides(five, 5), "01100");
     }
 
     private static void promise15Crosses() {
         CHECK.at("promise 15");
-        same("a triangle", crossing(graph(3, 5, 0, 1, 1, 2, 2, 0)), "110");
-        same("a triangle of the heaviest", crossing(graph(3, HEAVIEST, 0, 1, 1, 2, 2, 0)), "110");
-        same("four without weight", crossing(graph(4, 0, 0, 1, 0, 2, 0, 3, 1, 2, 1, 3, 2, 3)), "111000");
-        same("four", crossing(graph(4, 1, 0, 1, 0, 2, 0, 3, 1, 2, 1, 3, 2, 3)), "110011");
-        same("a wheel of five", crossing(wheel()), "1101001111");
-        same("the first edge before many", crossing(graph(3, 0, 0, 1, 1, 2, 1, 2, 0, 2, 0, 2, 0, 2)), "111000");
-        PlanarSplit x = graph(3, 1, 0, 1, 1, 2, 2, 0);
+        CHECK.due("a triangle", Answers.crossing(Graphs.of(3, 5, 0, 1, 1, 2, 2, 0)), "110");
+        CHECK.due("a triangle of the heaviest",
+                Answers.crossing(Graphs.of(3, Graphs.HEAVIEST, 0, 1, 1, 2, 2, 0)), "110");
+        CHECK.due("four without weight",
+                Answers.crossing(Graphs.of(4, 0, 0, 1, 0, 2, 0, 3, 1, 2, 1, 3, 2, 3)), "111000");
+        CHECK.due("four", Answers.crossing(Graphs.of(4, 1, 0, 1, 0, 2, 0, 3, 1, 2, 1, 3, 2, 3)), "110011");
+        CHECK.due("a wheel of five", Answers.crossing(Graphs.wheel()), "1101001111");
+        CHECK.due("the first edge before many",
+                Answers.crossing(Graphs.of(3, 0, 0, 1, 1, 2, 1, 2, 0, 2, 0, 2, 0, 2)), "111000");
+        PlanarSplit x = Graphs.of(3, 1, 0, 1, 1, 2, 2, 0);
         x.weigh(2, 2);
-        same("a triangle with a heavy last edge", crossing(x), "101");
+        CHECK.due("a triangle with a heavy last edge", Answers.crossing(x), "101");
         x.weigh(1, 2);
-        same("a triangle with a light first edge", crossing(x), "011");
+        CHECK.due("a triangle with a light first edge", Answers.crossing(x), "011");
         CHECK.due("crosses(3)", x.crosses(3), false);
         for (int e : WRONG) {
             CHECK.due("crosses(" + e + ")", x.crosses(e), false);
         }
-        PlanarSplit five = five();
-        same("five", crossing(five), "0000000000");
+        PlanarSplit five = Graphs.five();
+        CHECK.due("five", Answers.crossing(five), "0000000000");
         five.undo();
-        same("five without an edge", crossing(five), "110001111");
+        CHECK.due("five without an edge", Answers.crossing(five), "110001111");
         CHECK.due("crosses(9) when taken away", five.crosses(9), false);
     }
 
     private static void promise16Witness() {
         CHECK.at("promise 16");
-        same("five", witness(five()), "1111111111");
-        same("three and three", witness(threeAndThree()), "111111111");
-        PlanarSplit doubled = five();
+        CHECK.due("five", Answers.witness(Graphs.five()), "1111111111");
+        CHECK.due("three and three", Answers.witness(Graphs.threeAndThree()), "111111111");
+        PlanarSplit doubled = Graphs.five();
         doubled.add(1, 0, 0);
-        same("five with its first edge doubled", witness(doubled), "01111111111");
-        same("five beside others", witness(triangleAndFive()), "1111111111000");
-        same("six", witness(graph(6, 1, 0, 1, 0, 2, 0, 3, 0, 4, 0, 5, 1, 2, 1, 3, 1, 4, 1, 5,
+        CHECK.due("five with its first edge doubled", Answers.witness(doubled), "01111111111");
+        CHECK.due("five beside others", Answers.witness(Graphs.triangleAndFive()), "1111111111000");
+        CHECK.due("six", Answers.witness(Graphs.of(6, 1, 0, 1, 0, 2, 0, 3, 0, 4, 0, 5, 1, 2, 1, 3, 1, 4, 1, 5,
                 2, 3, 2, 4, 2, 5, 3, 4, 3, 5, 4, 5)), "000001111111111");
-        PlanarSplit wide = graph(7, 1, 0, 3, 0, 4, 0, 5, 0, 6, 1, 3, 1, 4, 1, 5, 1, 6, 2, 3, 2, 4, 2, 5, 2, 6);
-        same("three and four", witness(wide), "011101110111");
+        PlanarSplit wide = Graphs.of(7, 1, 0, 3, 0, 4, 0, 5, 0, 6, 1, 3, 1, 4, 1, 5, 1, 6, 2, 3, 2, 4, 2, 5, 2, 6);
+        CHECK.due("three and four", Answers.witness(wide), "011101110111");
         CHECK.due("witness(12)", wide.witness(12), false);
         for (int e : WRONG) {
             CHECK.due("witness(" + e + ")", wide.witness(e), false);
         }
-        same("a cube", witness(cube()), "000000000000");
-        PlanarSplit less = five();
+        CHECK.due("a cube", Answers.witness(Graphs.cube()), "000000000000");
+        PlanarSplit less = Graphs.five();
         less.undo();
-        same("five without an edge", witness(less), "000000000");
+        CHECK.due("five without an edge", Answers.witness(less), "000000000");
     }
 
     private static void promise17Kind() {
         CHECK.at("promise 17");
-        CHECK.due("five", five().kind(), 5);
-        CHECK.due("three and three", threeAndThree().kind(), 3);
-        CHECK.due("Petersen's", petersen().kind(), 3);
-        CHECK.due("five beside others", triangleAndFive().kind(), 5);
-        CHECK.due("five with a vertex on an edge", graph(6, 1, 0, 1, 0, 2, 0, 3, 0, 4, 1, 2, 1, 3, 1, 4,
+        CHECK.due("five", Graphs.five().kind(), 5);
+        CHECK.due("three and three", Graphs.threeAndThree().kind(), 3);
+        CHECK.due("Petersen's", Graphs.petersen().kind(), 3);
+        CHECK.due("five beside others", Graphs.triangleAndFive().kind(), 5);
+        CHECK.due("five with a vertex on an edge", Graphs.of(6, 1, 0, 1, 0, 2, 0, 3, 0, 4, 1, 2, 1, 3, 1, 4,
                 2, 3, 2, 4, 3, 5, 5, 4).kind(), 5);
-        CHECK.due("five, two edges to and two from each", graph(5, 1, 0, 1, 1, 2, 2, 3, 3, 4, 4, 0,
+        CHECK.due("five, two edges to and two from each", Graphs.of(5, 1, 0, 1, 1, 2, 2, 3, 3, 4, 4, 0,
                 0, 2, 2, 4, 4, 1, 1, 3, 3, 0).kind(), 5);
-        PlanarSplit five = five();
+        PlanarSplit five = Graphs.five();
         five.add(0, 1, 1);
         CHECK.due("five with an edge doubled", five.kind(), 5);
         // The graph has vertices with four edges, its witness has none.
-        CHECK.due("three and three with an edge more", graph(6, 1, 0, 1, 0, 3, 0, 4, 0, 5, 1, 3, 1, 4, 1, 5,
+        CHECK.due("three and three with an edge more", Graphs.of(6, 1, 0, 1, 0, 3, 0, 4, 0, 5, 1, 3, 1, 4, 1, 5,
                 2, 3, 2, 4, 2, 5).kind(), 3);
-        CHECK.due("a cube", cube().kind(), 0);
-        CHECK.due("a wheel", wheel().kind(), 0);
-        CHECK.due("ten alone", graph(10, 1).kind(), 0);
+        CHECK.due("a cube", Graphs.cube().kind(), 0);
+        CHECK.due("a wheel", Graphs.wheel().kind(), 0);
+        CHECK.due("ten alone", Graphs.of(10, 1).kind(), 0);
     }
 
     // ---- what holds for all of them
 
-    private static String allAnswers(PlanarSplit x) {
-        return x.edges() + " " + x.components() + " " + x.blocks() + " " + x.planar() + " " + x.faces() + " "
-                + x.cut() + " " + x.kind() + " " + components(x, 11) + " " + sides(x, 11) + " " + blocks(x)
-                + " " + crossing(x) + " " + witness(x);
-    }
-
     private static void refusedCallsChangeNothing() {
         CHECK.at("refused calls");
-        for (PlanarSplit x : new PlanarSplit[] {five(), petersen(), wheel(), cube(), triangleAndFive(), eighteen()}) {
-            String before = allAnswers(x);
+        for (PlanarSplit x : new PlanarSplit[] {Graphs.five(), Graphs.petersen(), Graphs.wheel(),
+                Graphs.cube(), Graphs.triangleAndFive(), Graphs.eighteen()}) {
+            String before = Answers.all(x);
             x.begin(11);
             x.begin(-1);
             x.add(0, 0, 1);
@@ -477,38 +382,40 @@ public final class PromisesTest {
             x.weigh(0, -1);
             x.weigh(-1, 5);
             x.weigh(18, 5);
-            same("answers", allAnswers(x), before);
+            CHECK.due("answers", Answers.all(x), before);
         }
-        PlanarSplit full = eighteen();
-        String before = allAnswers(full);
+        PlanarSplit full = Graphs.eighteen();
+        String before = Answers.all(full);
         full.add(0, 1, 1000);
-        same("answers of a full graph", allAnswers(full), before);
-        PlanarSplit empty = graph(3, 1);
-        before = allAnswers(empty);
+        CHECK.due("answers of a full graph", Answers.all(full), before);
+        PlanarSplit empty = Graphs.of(3, 1);
+        before = Answers.all(empty);
         empty.undo();
-        same("answers of a graph without edges", allAnswers(empty), before);
+        CHECK.due("answers of a graph without edges", Answers.all(empty), before);
     }
 
     /** An answer given before must not stand in the way of one that is due after a change. */
     private static void answersFollowTheGraph() {
         CHECK.at("changes");
-        PlanarSplit x = five();
-        String whole = allAnswers(x);
+        PlanarSplit x = Graphs.five();
+        String whole = Answers.all(x);
         x.undo();
-        String less = allAnswers(x);
+        String less = Answers.all(x);
         CHECK.due("planar() after undo()", x.planar(), true);
         x.add(3, 4, 1);
-        same("answers with the edge again", allAnswers(x), whole);
+        CHECK.due("answers with the edge again", Answers.all(x), whole);
         x.weigh(0, 9);
-        same("answers of five with other weights", allAnswers(x), whole);
+        CHECK.due("answers of five with other weights", Answers.all(x), whole);
         x.undo();
         CHECK.due("cut() with the weight told while not planar", x.cut(), 14);
         x.weigh(0, 1);
-        same("answers without it again", allAnswers(x), less);
+        CHECK.due("answers without it again", Answers.all(x), less);
+        x = Graphs.five();
+        Answers.all(x);
         x.begin(5);
-        same("answers of a begun graph", allAnswers(x), allAnswers(graph(5, 1)));
+        CHECK.due("answers of a begun graph", Answers.all(x), Answers.all(Graphs.of(5, 1)));
         x.begin(2);
-        same("answers of fewer vertices", allAnswers(x), allAnswers(graph(2, 1)));
+        CHECK.due("answers of fewer vertices", Answers.all(x), Answers.all(Graphs.of(2, 1)));
     }
 
     private static void objectsAreApart() {
