@@ -239,21 +239,9 @@ final class Model {
         return false;
     }
 
-    private List<List<Integer>> leavingSteps(List<int[]> part) {
-        List<List<Integer>> leaving = new ArrayList<>();
-        for (int v = 0; v < vertexCount; v++) {
-            leaving.add(new ArrayList<>());
-        }
-        for (int e = 0; e < part.size(); e++) {
-            leaving.get(part.get(e)[0]).add(2 * e);
-            leaving.get(part.get(e)[1]).add(2 * e + 1);
-        }
-        return leaving;
-    }
-
     private long countRounds(List<int[]> part) {
         long product = 1;
-        for (List<Integer> steps : leavingSteps(part)) {
+        for (List<Integer> steps : Rounds.leavingSteps(vertexCount, endsOf(part))) {
             for (int i = 2; i < steps.size() && product <= MOST_ROUNDS; i++) {
                 product *= i;
             }
@@ -261,64 +249,22 @@ final class Model {
         return product;
     }
 
+    /** No rounds give more faces than V - E + F = 2 in every component asks. */
     private boolean planarByRounds(List<int[]> part) {
-        return mostFaces(part, leavingSteps(part), 0, 1) == facesByEuler(part);
-    }
-
-    /** What V - E + F = 2 in every component asks, over those that have edges. */
-    private int facesByEuler(List<int[]> part) {
-        int count = part.size();
         Model alone = new Model();
         alone.vertexCount = vertexCount;
         alone.edges.addAll(part);
-        int[] number = alone.componentNumbers();
-        int[] near = neighboursIn(part);
-        boolean[] seen = new boolean[vertexCount];
-        for (int v = 0; v < vertexCount; v++) {
-            if (near[v] != 0) {
-                count += seen[number[v]] ? -1 : 1;
-                seen[number[v]] = true;
-            }
-        }
-        return count;
+        int components = (int) Arrays.stream(alone.componentNumbers()).distinct().count();
+        return Rounds.mostWalks(vertexCount, endsOf(part)) == 2 * components - vertexCount + part.size();
     }
 
-    /** The most faces over all rounds; no round has more than a planar one. */
-    private int mostFaces(List<int[]> part, List<List<Integer>> rounds, int v, int i) {
-        if (v == vertexCount) {
-            return countFaces(part, rounds);
+    private static int[] endsOf(List<int[]> part) {
+        int[] ends = new int[2 * part.size()];
+        for (int e = 0; e < part.size(); e++) {
+            ends[2 * e] = part.get(e)[0];
+            ends[2 * e + 1] = part.get(e)[1];
         }
-        List<Integer> round = rounds.get(v);
-        if (i >= round.size()) {
-            return mostFaces(part, rounds, v + 1, 1);
-        }
-        int most = 0;
-        for (int j = i; j < round.size(); j++) {
-            java.util.Collections.swap(round, i, j);
-            most = Math.max(most, mostFaces(part, rounds, v, i + 1));
-            java.util.Collections.swap(round, i, j);
-        }
-        return most;
-    }
-
-    private static int countFaces(List<int[]> part, List<List<Integer>> rounds) {
-        int[] next = new int[2 * part.size()];
-        for (List<Integer> round : rounds) {
-            for (int i = 0; i < round.size(); i++) {
-                next[round.get(i) ^ 1] = round.get((i + 1) % round.size());
-            }
-        }
-        boolean[] walked = new boolean[next.length];
-        int count = 0;
-        for (int s = 0; s < next.length; s++) {
-            if (!walked[s]) {
-                count++;
-                for (int t = s; !walked[t]; t = next[t]) {
-                    walked[t] = true;
-                }
-            }
-        }
-        return count;
+        return ends;
     }
 
     int faces() {

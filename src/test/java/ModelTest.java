@@ -3,11 +3,10 @@ public final class ModelTest {
     private static final int RUNS = 500;
     private static final int CALLS = 512;
 
-    private static long state = 20261115;
+    private static final Numbers NUMBERS = new Numbers(20261115);
 
     private static int below(int bound) {
-        state = state * 6364136223846793005L + 1442695040888963407L;
-        return (int) ((state >>> 33) % bound);
+        return NUMBERS.below(bound);
     }
 
     public static void main(String[] args) {
